@@ -1,0 +1,120 @@
+/** Long runs of mixed calls: every answer and every state against the model, and properties 1 to 5 after each call. */
+public final class ModelRunsTest {
+    private static final int RUNS = 300;
+    private static final int CALLS = 120;
+    private static final Check check = new Check();
+    private static long seed;
+
+    public static void main(String[] args) {
+        for (int run = 1; run <= RUNS; run++) {
+            seed = run;
+            run(run);
+        }
+        check.end();
+    }
+
+    private static int pick(int below) {
+        seed = seed * 6364136223846793005L + 1442695040888963407L;
+        return (int) ((seed >>> 33) % below);
+    }
+
+    private static void run(int run) {
+        int units = run % 3 == 0 ? pick(70) - 2 : 4 + pick(24);
+        int limit = run % 2 == 0 ? pick(68) - 2 : 1 + pick(8);
+        CapacityQueues x = new CapacityQueues(units, limit);
+        Model m = new Model(units, limit);
+        for (int n = 0; n < CALLS; n++) {
+            String where = "run " + run + ", call " + n + ": ";
+            boolean preempted = call(where, x, m);
+            sameState(where, x, m);
+            properties(where, x, m.lastId(), preempted);
+        }
+    }
+
+    /** Answers whether the call was preempt. */
+    private static boolean call(String where, CapacityQueues x, Model m) {
+        int q = pick(m.queues.size() + 2) - 1;
+        int g = pick(8) - 1;
+        int max = g + pick(m.units) - 1;
+        int user = pick(20) == 0 ? pick(7) - 2 : pick(4);
+        int id = 1 + pick(m.lastId() + 2);
+        switch (pick(20)) {
+            case 0, 1, 2 -> check.due(where + "addQueue " + q + " " + g + " " + max, x.addQueue(q, g, max), m.addQueue(q, g, max));
+            case 3, 4 -> check.due(where + "setCapacity " + q + " " + g + " " + max, x.setCapacity(q, g, max), m.setCapacity(q, g, max));
+            case 5, 6, 7, 8, 9, 10 -> {
+                int count = pick(30) == 0 ? pick(140) - 40 : 1 + pick(12);
+                check.due(where + "submit " + q + " " + user + " " + count, x.submit(q, user, count), m.submit(q, user, count));
+            }
+            case 11 -> check.due(where + "cancel " + q + " " + user, x.cancel(q, user), m.cancel(q, user));
+            case 12, 13, 14, 15 -> check.due(where + "complete " + id, x.complete(id), m.complete(id));
+            case 16, 17 -> check.due(where + "schedule", x.schedule(), m.schedule());
+            default -> {
+                check.due(where + "preempt", x.preempt(), m.preempt());
+                return true;
+            }
+        }
+        return false;
+    }
+
+    private static void sameState(String where, CapacityQueues x, Model m) {
+        check.due(where + "queueCount()", x.queueCount(), m.queues.size());
+        check.due(where + "userLimit()", x.userLimit(), m.limit);
+        for (Model.Queue q : m.queues) {
+            String at = where + "queue " + q.id + " ";
+            check.due(at + "parentOf", x.parentOf(q.id), q.parent == null ? -1 : q.parent.id);
+            check.due(at + "guarantee", x.guarantee(q.id), q.g);
+            check.due(at + "maxCapacity", x.maxCapacity(q.id), q.max);
+            check.due(at + "used", x.used(q.id), m.used(q));
+            for (int user = 0; user < 4; user++) {
+                check.due(at + "pending " + user, x.pending(q.id, user), q.pending[user]);
+                check.due(at + "userUsed " + user, x.userUsed(q.id, user), m.userUsed(q, user));
+            }
+        }
+        for (int id = -1; id <= m.lastId() + 1; id++) {
+            Model.Container c = m.live.get(id);
+            check.due(where + "containerInfo " + id, x.containerInfo(id), c == null ? -1 : c.leaf().id * 4 + c.user());
+        }
+    }
+
+    private static void properties(String where, CapacityQueues x, int lastId, boolean preempted) {
+        int count = x.queueCount();
+        int[] children = new int[count];
+        int[] childUse = new int[count];
+        int[] childGuarantee = new int[count];
+        for (int q = 1; q < count; q++) {
+            children[x.parentOf(q)]++;
+            childUse[x.parentOf(q)] += x.used(q);
+            childGuarantee[x.parentOf(q)] += x.guarantee(q);
+        }
+        int[] live = new int[count];
+        for (int id = 1; id <= lastId; id++) {
+            if (x.containerInfo(id) != CapacityQueues.NONE) {
+                live[x.containerInfo(id) / 4]++;
+            }
+        }
+        for (int q = 0; q < count; q++) {
+            String at = where + "queue " + q + " ";
+            if (children[q] == 0) {
+                leafProperties(at, x, q, live[q], preempted);
+            } else {
+                check.due(at + "property 2", x.used(q), childUse[q]);
+            }
+            check.due(at + "property 3", x.used(q) >= 0 && x.used(q) <= x.maxCapacity(q), true);
+            check.due(at + "property 4", childGuarantee[q] <= x.guarantee(q), true);
+        }
+    }
+
+    private static void leafProperties(String at, CapacityQueues x, int leaf, int live, boolean preempted) {
+        int held = 0;
+        int demand = 0;
+        for (int user = 0; user < 4; user++) {
+            held += x.userUsed(leaf, user);
+            demand += Math.max(0, Math.min(x.pending(leaf, user), x.userLimit() - x.userUsed(leaf, user)));
+        }
+        check.due(at + "property 1, users", x.used(leaf), held);
+        check.due(at + "property 1, containers", x.used(leaf), live);
+        if (preempted) {
+            check.due(at + "property 5", x.used(leaf) >= x.guarantee(leaf) || demand == 0, true);
+        }
+    }
+}
