@@ -1,6 +1,6 @@
 /** Long runs of mixed calls: every answer and every state against the model, and properties 1 to 5 after each call. */
 public final class ModelRunsTest {
-    private static final int RUNS = 300;
+    private static final int RUNS = 500;
     private static final int CALLS = 120;
     private static final Check check = new Check();
     private static long seed;
@@ -23,11 +23,25 @@ public final class ModelRunsTest {
         int limit = run % 2 == 0 ? pick(68) - 2 : 1 + pick(8);
         CapacityQueues x = new CapacityQueues(units, limit);
         Model m = new Model(units, limit);
+        if (run % 4 < 2) {
+            grow(run, x, m);
+        }
         for (int n = 0; n < CALLS; n++) {
             String where = "run " + run + ", call " + n + ": ";
             boolean preempted = call(where, x, m);
             sameState(where, x, m);
             properties(where, x, m.lastId(), preempted);
+        }
+    }
+
+    /** Mixed calls alone seldom make a full tree, because a leaf that is busy gets no child. */
+    private static void grow(int run, CapacityQueues x, Model m) {
+        int reach = run % 4 == 0 ? 5 : 16;
+        for (int n = 0; n < 60; n++) {
+            int parent = pick(Math.min(reach, m.queues.size()));
+            int g = pick(1 + m.queues.get(parent).g / 2);
+            int max = g + pick(m.units);
+            check.due("run " + run + ", growing: addQueue", x.addQueue(parent, g, max), m.addQueue(parent, g, max));
         }
     }
 
@@ -42,7 +56,7 @@ public final class ModelRunsTest {
             case 0, 1, 2 -> check.due(where + "addQueue " + q + " " + g + " " + max, x.addQueue(q, g, max), m.addQueue(q, g, max));
             case 3, 4 -> check.due(where + "setCapacity " + q + " " + g + " " + max, x.setCapacity(q, g, max), m.setCapacity(q, g, max));
             case 5, 6, 7, 8, 9, 10 -> {
-                int count = pick(30) == 0 ? pick(140) - 40 : 1 + pick(12);
+                int count = pick(30) == 0 ? pick(140) - 40 : 1 + pick(m.limit < 6 ? 12 : 40);
                 check.due(where + "submit " + q + " " + user + " " + count, x.submit(q, user, count), m.submit(q, user, count));
             }
             case 11 -> check.due(where + "cancel " + q + " " + user, x.cancel(q, user), m.cancel(q, user));

@@ -13,6 +13,7 @@ public final class PreemptTest {
         onlyBelowTheNearestFullAncestor();
         outsideWhenTheFullAncestorIsFarther();
         sixtyFourRounds();
+        sixteenQueues();
         check.end();
     }
 
@@ -199,5 +200,23 @@ public final class PreemptTest {
         check.due("containerInfo(65)", x.containerInfo(65), at(2, 3));
         check.due("containerInfo(128)", x.containerInfo(128), at(2, 3));
         check.due("containerInfo(129)", x.containerInfo(129), CapacityQueues.NONE);
+    }
+
+    private static void sixteenQueues() {
+        CapacityQueues x = new CapacityQueues(64, 64);
+        x.addQueue(0, 0, 64);
+        for (int q = 2; q < CapacityQueues.MAX_QUEUES; q++) {
+            x.addQueue(0, 3, 64);
+        }
+        x.submit(1, 0, 64);
+        check.due("preempt() with nothing to take back", x.preempt(), 0);
+        for (int q = 2; q < CapacityQueues.MAX_QUEUES; q++) {
+            x.submit(q, 1, q % 2 == 0 ? 2 : 4);
+        }
+        check.due("preempt()", x.preempt(), 7 * 2 + 7 * 3);
+        check.due("used(1)", x.used(1), 64 - 35);
+        check.due("used(14)", x.used(14), 2);
+        check.due("used(15)", x.used(15), 3);
+        check.due("pending(15, 1)", x.pending(15, 1), 1);
     }
 }

@@ -10,6 +10,7 @@ public final class SetCapacityTest {
         mustFitBesideSiblings();
         onlyGuaranteeAndMaximumChange();
         newCapacitiesCount();
+        sixteenQueues();
         check.end();
     }
 
@@ -121,5 +122,16 @@ public final class SetCapacityTest {
         taken(x, 1, 3, 6);
         taken(x, 4, 0, 16);
         check.due("schedule()", x.schedule(), 1);
+    }
+
+    private static void sixteenQueues() {
+        CapacityQueues x = new CapacityQueues(20, 8);
+        for (int q = 1; q < CapacityQueues.MAX_QUEUES; q++) {
+            x.addQueue(0, 1, 20);
+        }
+        refused(x, 15, 7, 20);
+        refused(x, 16, 0, 20);
+        taken(x, 15, 6, 20);
+        refused(x, 1, 2, 20);
     }
 }
