@@ -145,9 +145,10 @@ public final class PreemptTest {
         check.granted(x, 7, at(2, 2), at(3, 1), at(3, 1));
     }
 
-    private static void onlyBelowTheNearestFullAncestor() {
+    /** The cluster is full; leaf 3 beside the starved leaf 4 holds lent units, and leaf 2 outside holds younger ones. */
+    private static CapacityQueues starvedBelowQueueOne(int maxOfQueueOne) {
         CapacityQueues x = new CapacityQueues(10, 10);
-        x.addQueue(0, 6, 6);
+        x.addQueue(0, 6, maxOfQueueOne);
         x.addQueue(0, 2, 10);
         x.addQueue(1, 3, 6);
         x.addQueue(1, 3, 6);
@@ -156,6 +157,11 @@ public final class PreemptTest {
         x.submit(2, 0, 4);
         x.schedule();
         x.submit(4, 0, 2);
+        return x;
+    }
+
+    private static void onlyBelowTheNearestFullAncestor() {
+        CapacityQueues x = starvedBelowQueueOne(6);
         // Root is full too, and leaf 2 holds younger lent units, but queue 1 is full and nearer.
         check.due("preempt()", x.preempt(), 2);
         check.due("used(2)", x.used(2), 4);
@@ -167,16 +173,7 @@ public final class PreemptTest {
     }
 
     private static void outsideWhenTheFullAncestorIsFarther() {
-        CapacityQueues x = new CapacityQueues(10, 10);
-        x.addQueue(0, 6, 7);
-        x.addQueue(0, 2, 10);
-        x.addQueue(1, 3, 6);
-        x.addQueue(1, 3, 6);
-        x.submit(3, 0, 6);
-        x.schedule();
-        x.submit(2, 0, 4);
-        x.schedule();
-        x.submit(4, 0, 2);
+        CapacityQueues x = starvedBelowQueueOne(7);
         // Queue 1 has room for one: that one comes from the youngest below the root, the next from below queue 1.
         check.due("preempt()", x.preempt(), 2);
         check.due("used(2)", x.used(2), 3);
