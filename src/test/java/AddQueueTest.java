@@ -5,10 +5,17 @@ public final class AddQueueTest {
     public static void main(String[] args) {
         newQueueAndItsState();
         atMostSixteenQueues();
+        sixteenQueuesTakeNoMoreWhateverElseHolds();
         wrongParents();
+        wrongParentsOfAFreshObject();
         wrongCapacities();
+        capacitiesAtTheirBounds();
         guaranteesMustFit();
+        nothingFitsBelowAGuaranteeOfZero();
         aBusyLeafGetsNoChild();
+        aBusyRootGetsNoChild();
+        aLeafIsNoLongerBusyWhenAllIsGone();
+        aLeafBesideABusyOneIsNotBusy();
         aBusyInnerQueueGetsOne();
         nothingIsScheduled();
         check.end();
@@ -57,6 +64,27 @@ public final class AddQueueTest {
         check.due("used(7) in the deep tree", deep.used(7), 4);
     }
 
+    /** "1. queueCount() == 16." */
+    private static void sixteenQueuesTakeNoMoreWhateverElseHolds() {
+        CapacityQueues x = Start.full().object();
+        check.due("queueCount()", x.queueCount(), 16);
+        for (int parent = -1; parent <= 16; parent++) {
+            refused(x, parent, 0, 0);
+            refused(x, parent, 0, 30);
+            refused(x, parent, -1, 31);
+        }
+    }
+
+    /** "2. parent not in 0..queueCount()-1.", where 1 would be the new queue itself. */
+    private static void wrongParentsOfAFreshObject() {
+        CapacityQueues x = new CapacityQueues(10, 4);
+        refused(x, -1, 0, 1);
+        refused(x, 1, 0, 1);
+        check.due("addQueue(0, 0, 1)", x.addQueue(0, 0, 1), 1);
+        refused(x, 2, 0, 1);
+        check.due("addQueue(1, 0, 1)", x.addQueue(1, 0, 1), 2);
+    }
+
     private static void wrongParents() {
         CapacityQueues x = new CapacityQueues(10, 4);
         x.addQueue(0, 3, 7);
@@ -79,6 +107,31 @@ public final class AddQueueTest {
         refused(x, 0, Integer.MAX_VALUE, Integer.MAX_VALUE);
         check.due("addQueue(0, 5, 5)", x.addQueue(0, 5, 5), 1);
         check.due("a maximum above the parent's, addQueue(1, 0, 10)", x.addQueue(1, 0, 10), 2);
+    }
+
+    /** "4. g < 0, or max < g, or max > C.": each bound is taken, and one beyond it is not. */
+    private static void capacitiesAtTheirBounds() {
+        for (int units : new int[] {1, 10, 64}) {
+            CapacityQueues x = new CapacityQueues(units, 4);
+            refused(x, 0, -1, units);
+            refused(x, 0, units, units - 1);
+            refused(x, 0, 1, 0);
+            refused(x, 0, 0, units + 1);
+            refused(x, 0, units + 1, units + 1);
+            check.due("addQueue(0, 0, 0)", x.addQueue(0, 0, 0), 1);
+            check.due("addQueue(0, 0, C)", x.addQueue(0, 0, units), 2);
+            check.due("addQueue(0, C, C)", x.addQueue(0, units, units), 3);
+        }
+    }
+
+    /** "5. (sum of g over parent's existing children) + g > g(parent).", with a parent of guarantee 0. */
+    private static void nothingFitsBelowAGuaranteeOfZero() {
+        CapacityQueues x = new CapacityQueues(10, 4);
+        x.addQueue(0, 0, 10);
+        refused(x, 1, 1, 10);
+        check.due("addQueue(1, 0, 10)", x.addQueue(1, 0, 10), 2);
+        refused(x, 1, 1, 10);
+        check.due("addQueue(1, 0, 0)", x.addQueue(1, 0, 0), 3);
     }
 
     private static void guaranteesMustFit() {
@@ -109,15 +162,66 @@ public final class AddQueueTest {
         }
     }
 
+    /** "3. parent is a leaf and either used(parent) > 0 or some pending(parent,k) > 0.", where the leaf is the root. */
+    private static void aBusyRootGetsNoChild() {
+        CapacityQueues x = new CapacityQueues(1, 1);
+        x.submit(0, 3, 2);
+        refused(x, 0, 0, 1);
+        x.schedule();
+        refused(x, 0, 0, 1);
+        check.due("cancel(0, 3)", x.cancel(0, 3), 1);
+        refused(x, 0, 0, 1);
+        x.complete(1);
+        check.due("addQueue(0, 1, 1)", x.addQueue(0, 1, 1), 1);
+    }
+
+    private static void aLeafIsNoLongerBusyWhenAllIsGone() {
+        CapacityQueues x = new CapacityQueues(10, 4);
+        x.addQueue(0, 5, 10);
+        x.submit(1, 1, 6);
+        x.submit(1, 2, 1);
+        x.schedule();
+        for (int id = 1; id <= 5; id++) {
+            refused(x, 1, 0, 1);
+            check.due("complete(" + id + ")", x.complete(id), true);
+        }
+        refused(x, 1, 0, 1);
+        check.due("cancel(1, 1)", x.cancel(1, 1), 2);
+        check.due("addQueue(1, 5, 10)", x.addQueue(1, 5, 10), 2);
+        check.due("queue 1", State.queue(x, 1),
+            "q1 parent 0 g 5 max 10 used 0 u-1 -1/-1 u0 0/0 u1 0/0 u2 0/0 u3 0/0 u4 -1/-1");
+        check.due("queue 2", State.queue(x, 2),
+            "q2 parent 1 g 5 max 10 used 0 u-1 -1/-1 u0 0/0 u1 0/0 u2 0/0 u3 0/0 u4 -1/-1");
+    }
+
+    private static void aLeafBesideABusyOneIsNotBusy() {
+        CapacityQueues x = new CapacityQueues(10, 1);
+        for (int q = 1; q <= 3; q++) {
+            x.addQueue(0, 2, 10);
+        }
+        for (int user = 0; user < CapacityQueues.USERS; user++) {
+            x.submit(1, user, 2);
+            x.submit(3, user, 2);
+        }
+        check.due("addQueue(2, 2, 10) beside requests", x.addQueue(2, 2, 10), 4);
+        check.due("schedule()", x.schedule(), 8);
+        check.due("addQueue(4, 2, 10) beside containers", x.addQueue(4, 2, 10), 5);
+        refused(x, 1, 0, 1);
+        refused(x, 3, 0, 1);
+    }
+
     private static void aBusyInnerQueueGetsOne() {
         CapacityQueues x = new CapacityQueues(10, 4);
         x.addQueue(0, 5, 10);
         x.submit(1, 0, 6);
         x.schedule();
+        x.submit(1, 1, 3);
         check.due("used(0)", x.used(0), 4);
+        String queues = State.queues(x, 0, 1);
+        String containers = State.containers(x);
         check.due("addQueue(0, 0, 1)", x.addQueue(0, 0, 1), 2);
-        check.due("used(0)", x.used(0), 4);
-        check.due("used(1)", x.used(1), 4);
+        check.due("the other queues", State.queues(x, 0, 1), queues);
+        check.due("the containers", State.containers(x), containers);
     }
 
     private static void nothingIsScheduled() {

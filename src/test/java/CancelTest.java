@@ -4,6 +4,9 @@ public final class CancelTest {
 
     public static void main(String[] args) {
         wrongCalls();
+        wrongCallsOfAFreshObject();
+        aLeafWithChildrenIsNoneAnyMore();
+        formerValueMayBeZero();
         onlyOnePendingChanges();
         demandIsGone();
         check.end();
@@ -38,6 +41,45 @@ public final class CancelTest {
         for (int user : users) {
             refused(x, 1, user);
         }
+    }
+
+    private static void wrongCallsOfAFreshObject() {
+        CapacityQueues x = new CapacityQueues(8, 3);
+        refused(x, -1, 0);
+        refused(x, 1, 0);
+        refused(x, 0, -1);
+        refused(x, 0, 4);
+        refused(x, -1, -1);
+    }
+
+    /** "It answers NONE, changing nothing, if ... leaf has children", and not the 0 that pending answers there. */
+    private static void aLeafWithChildrenIsNoneAnyMore() {
+        CapacityQueues x = new CapacityQueues(8, 3);
+        check.due("cancel(0, 0)", x.cancel(0, 0), 0);
+        x.addQueue(0, 4, 8);
+        check.due("pending(0, 0)", x.pending(0, 0), 0);
+        for (int user = 0; user < CapacityQueues.USERS; user++) {
+            refused(x, 0, user);
+        }
+        check.due("cancel(1, 0)", x.cancel(1, 0), 0);
+        x.addQueue(1, 4, 8);
+        refused(x, 1, 0);
+    }
+
+    /** "its former value (which may be 0)": never asked, all granted, and cancelled before. */
+    private static void formerValueMayBeZero() {
+        CapacityQueues x = new CapacityQueues(8, 3);
+        x.submit(0, 1, 2);
+        x.schedule();
+        x.submit(0, 2, 1);
+        String before = State.of(x);
+        check.due("cancel(0, 0), never asked", x.cancel(0, 0), 0);
+        check.due("cancel(0, 1), all granted", x.cancel(0, 1), 0);
+        check.due("state", State.of(x), before);
+        check.due("cancel(0, 2)", x.cancel(0, 2), 1);
+        before = State.of(x);
+        check.due("cancel(0, 2) again", x.cancel(0, 2), 0);
+        check.due("state", State.of(x), before);
     }
 
     private static void onlyOnePendingChanges() {

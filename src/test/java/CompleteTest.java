@@ -4,7 +4,11 @@ public final class CompleteTest {
 
     public static void main(String[] args) {
         wrongIds();
+        wrongIdsOfAFreshObject();
+        everyIdUpToTheLastIssued();
+        idsTakenBackAreGone();
         usageIsReleasedUpToTheRoot();
+        pendingIsNotRestored();
         idsAreNeverReused();
         manyContainersComeAndGo();
         check.end();
@@ -36,6 +40,69 @@ public final class CompleteTest {
         check.due("complete(4)", x.complete(4), true);
         refused(x, 4);
         refused(x, 0);
+    }
+
+    /** "an id never issued": the counter stands at 1, but 1 is issued only by a grant. */
+    private static void wrongIdsOfAFreshObject() {
+        CapacityQueues x = new CapacityQueues(8, 8);
+        for (int id : new int[] {Integer.MIN_VALUE, -1, 0, 1, 2, 64, Integer.MAX_VALUE}) {
+            refused(x, id);
+        }
+        x.submit(0, 0, 1);
+        refused(x, 1);
+        x.schedule();
+        refused(x, 2);
+        check.due("complete(1)", x.complete(1), true);
+        refused(x, 1);
+    }
+
+    /** In a cluster of 64 units, all held: the first and the last issued are live, their outer neighbours are not. */
+    private static void everyIdUpToTheLastIssued() {
+        CapacityQueues x = new CapacityQueues(64, 64);
+        x.submit(0, 0, 64);
+        x.schedule();
+        refused(x, 0);
+        refused(x, 65);
+        for (int id = 1; id <= 64; id++) {
+            check.due("complete(" + id + ")", x.complete(id), true);
+            check.due("used(0)", x.used(0), 64 - id);
+        }
+        for (int id = 0; id <= 65; id++) {
+            refused(x, id);
+        }
+    }
+
+    /** "a container already gone", by preempt: its id stays gone when the request is granted anew. */
+    private static void idsTakenBackAreGone() {
+        CapacityQueues x = new CapacityQueues(4, 4);
+        x.addQueue(0, 0, 4);
+        x.addQueue(0, 1, 4);
+        x.submit(1, 0, 4);
+        x.schedule();
+        x.submit(2, 0, 1);
+        check.due("preempt()", x.preempt(), 1);
+        refused(x, 4);
+        check.due("complete(5)", x.complete(5), true);
+        check.due("schedule()", x.schedule(), 1);
+        check.granted(x, 1, 4, 4, 4, -1, -1, 4);
+        refused(x, 4);
+        refused(x, 5);
+    }
+
+    /** "Its pending is not restored: pending of its leaf and user stays as it was", at 0 and above. */
+    private static void pendingIsNotRestored() {
+        CapacityQueues x = new CapacityQueues(2, 2);
+        x.submit(0, 0, 1);
+        x.submit(0, 1, 5);
+        x.schedule();
+        check.due("complete(1)", x.complete(1), true);
+        check.due("pending(0, 0)", x.pending(0, 0), 0);
+        check.due("pending(0, 1)", x.pending(0, 1), 4);
+        check.due("complete(2)", x.complete(2), true);
+        check.due("pending(0, 1)", x.pending(0, 1), 4);
+        check.due("used(0): nothing is scheduled", x.used(0), 0);
+        check.due("schedule()", x.schedule(), 2);
+        check.granted(x, 1, -1, -1, 1, 1);
     }
 
     private static void usageIsReleasedUpToTheRoot() {

@@ -12,7 +12,10 @@ public final class ConstructionTest {
         clamped(64, 64);
         clamped(65, 64);
         clamped(Integer.MAX_VALUE, 64);
+        bothClampedAtOnce();
+        clampedUnitsAndLimitCount();
         freshState();
+        nothingIsThereToTakeAway();
         freshRootIsLeafAndIdsStartAtOne();
         unitsAndLimitNeverChange();
         objectsAreApart();
@@ -27,6 +30,52 @@ public final class ConstructionTest {
         CapacityQueues byLimit = new CapacityQueues(7, given);
         check.due("limit " + given + ": userLimit()", byLimit.userLimit(), want);
         check.due("limit " + given + ": maxCapacity(0)", byLimit.maxCapacity(0), 7);
+    }
+
+    private static void bothClampedAtOnce() {
+        int[] given = {Integer.MIN_VALUE, 0, 1, 64, 65, Integer.MAX_VALUE};
+        int[] want = {1, 1, 1, 64, 64, 64};
+        for (int u = 0; u < given.length; u++) {
+            for (int l = 0; l < given.length; l++) {
+                CapacityQueues x = new CapacityQueues(given[u], given[l]);
+                String at = "(" + given[u] + ", " + given[l] + ")";
+                check.due(at + " maxCapacity(0)", x.maxCapacity(0), want[u]);
+                check.due(at + " guarantee(0)", x.guarantee(0), want[u]);
+                check.due(at + " userLimit()", x.userLimit(), want[l]);
+            }
+        }
+    }
+
+    /** The clamped values are those that scheduling goes by, not only those that the readers answer. */
+    private static void clampedUnitsAndLimitCount() {
+        int[] given = {-7, 0, 1, 64, 65, 1000};
+        int[] want = {1, 1, 1, 64, 64, 64};
+        for (int i = 0; i < given.length; i++) {
+            CapacityQueues byUnits = new CapacityQueues(given[i], 64);
+            check.due("units " + given[i] + ": a maximum of C", byUnits.addQueue(0, want[i], want[i]), 1);
+            check.due("units " + given[i] + ": one above C", byUnits.addQueue(0, 0, want[i] + 1), CapacityQueues.NONE);
+            byUnits.submit(1, 0, 64);
+            byUnits.submit(1, 1, 64);
+            check.due("units " + given[i] + ": schedule()", byUnits.schedule(), want[i]);
+            CapacityQueues byLimit = new CapacityQueues(64, given[i]);
+            byLimit.submit(0, 2, 64);
+            byLimit.submit(0, 2, 64);
+            check.due("limit " + given[i] + ": schedule()", byLimit.schedule(), want[i]);
+        }
+    }
+
+    /** "There are no pending requests ... and no containers": cancel and complete find nothing. */
+    private static void nothingIsThereToTakeAway() {
+        CapacityQueues x = new CapacityQueues(9, 5);
+        String before = State.of(x);
+        for (int user = 0; user < CapacityQueues.USERS; user++) {
+            check.due("cancel(0, " + user + ")", x.cancel(0, user), 0);
+        }
+        for (int id = -1; id < 66; id++) {
+            check.due("complete(" + id + ")", x.complete(id), false);
+        }
+        check.due("setCapacity(0, 9, 9)", x.setCapacity(0, 9, 9), false);
+        check.due("the fresh state", State.of(x), before);
     }
 
     private static void freshState() {

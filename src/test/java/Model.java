@@ -1,6 +1,7 @@
 import java.util.ArrayList;
 import java.util.List;
 import java.util.TreeMap;
+import java.util.stream.IntStream;
 
 /** The document's words once more, as a tree of objects, to compare the program with. */
 final class Model {
@@ -39,6 +40,8 @@ final class Model {
     final int limit;
     final List<Queue> queues = new ArrayList<>();
     final TreeMap<Integer, Container> live = new TreeMap<>();
+    /** The place in promise 8 where the last pass ended: after step 1, 2 or 3 of a round, or 0 after the last round. */
+    int endedAt = 0;
     private int nextId = 1;
 
     Model(int clusterUnits, int userLimit) {
@@ -69,7 +72,7 @@ final class Model {
         if (queues.size() == 16 || p == null) {
             return -1;
         }
-        boolean asked = p.pending[0] + p.pending[1] + p.pending[2] + p.pending[3] > 0;
+        boolean asked = IntStream.of(p.pending).anyMatch(count -> count > 0);
         if (p.isLeaf() && (used(p) > 0 || asked)) {
             return -1;
         }
@@ -179,6 +182,7 @@ final class Model {
             Queue starved = queues.stream()
                 .filter(q -> q.isLeaf() && used(q) < q.g && demand(q) > 0).findFirst().orElse(null);
             if (starved == null) {
+                endedAt = 1;
                 return victims;
             }
             Queue full = starved.parent;
@@ -187,12 +191,14 @@ final class Model {
             }
             Integer victim = full == null ? null : victimBelow(full, starved);
             if (victim == null) {
+                endedAt = full == null ? 2 : 3;
                 return victims;
             }
             Container gone = live.remove(victim);
             gone.leaf().pending[gone.user()]++;
             grant(starved);
         }
+        endedAt = 0;
         return 64;
     }
 

@@ -64,6 +64,9 @@ public final class ModelRunsTest {
             case 16, 17 -> check.due(where + "schedule", x.schedule(), m.schedule());
             default -> {
                 check.due(where + "preempt", x.preempt(), m.preempt());
+                // After a fill a starved leaf has a full ancestor, and there another leaf holds lent units. So no run
+                // can show a pass that ends after step 2 or 3; this shows that none does.
+                check.due(where + "the pass ended at a starved leaf", m.endedAt > 1, false);
                 return true;
             }
         }

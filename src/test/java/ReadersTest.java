@@ -9,8 +9,13 @@ public final class ReadersTest {
         queueCountCounts();
         readersOfAQueue();
         readersOfALeafAndUser();
+        readersOfAFreshObject();
+        readersOfSixteenQueues();
+        queueThatWasALeaf();
         userLimitAnswers();
         containerInfoAnswers();
+        containerInfoAtTheEnds();
+        containerInfoOfGoneOnes();
         readersChangeNothing();
         check.end();
     }
@@ -84,6 +89,57 @@ public final class ReadersTest {
         }
     }
 
+    /** Out of range is everything but 0. */
+    private static void readersOfAFreshObject() {
+        CapacityQueues x = new CapacityQueues(12, 3);
+        check.due("queue 0", State.queue(x, 0),
+            "q0 parent -1 g 12 max 12 used 0 u-1 -1/-1 u0 0/0 u1 0/0 u2 0/0 u3 0/0 u4 -1/-1");
+        for (int q : new int[] {-1, 1, 2, 15, 16}) {
+            check.due("queue " + q, State.queue(x, q), nothingAt(q));
+        }
+    }
+
+    /** The last queue that there can be is in range, the next one is not. */
+    private static void readersOfSixteenQueues() {
+        CapacityQueues x = new CapacityQueues(20, 3);
+        for (int q = 1; q < CapacityQueues.MAX_QUEUES; q++) {
+            check.due("queue " + q + ", not yet added", State.queue(x, q), nothingAt(q));
+            x.addQueue(0, 1, q);
+        }
+        x.submit(15, 3, 5);
+        x.schedule();
+        check.due("queue 15", State.queue(x, 15),
+            "q15 parent 0 g 1 max 15 used 3 u-1 -1/-1 u0 0/0 u1 0/0 u2 0/0 u3 2/3 u4 -1/-1");
+        check.due("queue 16", State.queue(x, 16), nothingAt(16));
+        check.due("containerInfo(1)", x.containerInfo(1), 63);
+    }
+
+    private static String nothingAt(int q) {
+        return "q" + q + " parent -1 g -1 max -1 used -1 u-1 -1/-1 u0 -1/-1 u1 -1/-1 u2 -1/-1 u3 -1/-1 u4 -1/-1";
+    }
+
+    /** "Otherwise it is 0 for a queue with children", also when it was a leaf before and units are held below it. */
+    private static void queueThatWasALeaf() {
+        CapacityQueues x = new CapacityQueues(4, 3);
+        x.submit(0, 2, 9);
+        x.schedule();
+        for (int id = 1; id <= 3; id++) {
+            x.complete(id);
+        }
+        check.due("pending(0, 2)", x.pending(0, 2), 6);
+        x.cancel(0, 2);
+        x.addQueue(0, 1, 4);
+        x.submit(1, 2, 9);
+        x.schedule();
+        check.due("queue 0", State.queue(x, 0),
+            "q0 parent -1 g 4 max 4 used 3 u-1 -1/-1 u0 0/0 u1 0/0 u2 0/0 u3 0/0 u4 -1/-1");
+        check.due("queue 1", State.queue(x, 1),
+            "q1 parent 0 g 1 max 4 used 3 u-1 -1/-1 u0 0/0 u1 0/0 u2 6/3 u3 0/0 u4 -1/-1");
+        for (int user : WRONG_USERS) {
+            noneAt(x, 0, user);
+        }
+    }
+
     private static void noneAt(CapacityQueues x, int q, int user) {
         check.due("pending(" + q + ", " + user + ")", x.pending(q, user), NONE);
         check.due("userUsed(" + q + ", " + user + ")", x.userUsed(q, user), NONE);
@@ -112,6 +168,35 @@ public final class ReadersTest {
         x.complete(10);
         check.due("containerInfo(10), gone", x.containerInfo(10), NONE);
         check.due("containerInfo(0), with a free unit", x.containerInfo(0), NONE);
+    }
+
+    /** The first and the last issued id of a full cluster of 64 units, and their outer neighbours. */
+    private static void containerInfoAtTheEnds() {
+        CapacityQueues x = new CapacityQueues(64, 64);
+        x.submit(0, 0, 64);
+        check.due("containerInfo(1), asked for but not issued", x.containerInfo(1), NONE);
+        x.schedule();
+        check.due("containerInfo(0)", x.containerInfo(0), NONE);
+        check.due("containerInfo(1)", x.containerInfo(1), 0);
+        check.due("containerInfo(64)", x.containerInfo(64), 0);
+        check.due("containerInfo(65)", x.containerInfo(65), NONE);
+    }
+
+    /** "already gone": by complete, and by preempt. */
+    private static void containerInfoOfGoneOnes() {
+        CapacityQueues x = new CapacityQueues(2, 2);
+        x.addQueue(0, 0, 2);
+        x.addQueue(0, 1, 2);
+        x.submit(1, 1, 2);
+        x.schedule();
+        x.submit(2, 2, 1);
+        check.due("preempt()", x.preempt(), 1);
+        check.due("containerInfo(2), taken back", x.containerInfo(2), NONE);
+        check.due("containerInfo(3)", x.containerInfo(3), 10);
+        check.due("complete(1)", x.complete(1), true);
+        check.due("containerInfo(1), completed", x.containerInfo(1), NONE);
+        check.due("schedule()", x.schedule(), 1);
+        check.granted(x, 1, NONE, NONE, 10, 5);
     }
 
     private static void readersChangeNothing() {

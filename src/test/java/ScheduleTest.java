@@ -4,6 +4,9 @@ public final class ScheduleTest {
 
     public static void main(String[] args) {
         nothingToDo();
+        rootIsNotOpen();
+        answersUpToAllUnits();
+        stepsGoOnUntilTheRootIsClosed();
         leastServedUserFirst();
         userLimitHolds();
         lightestByRatio();
@@ -36,6 +39,75 @@ public final class ScheduleTest {
         before = State.of(x);
         check.due("schedule() again", x.schedule(), 0);
         check.due("state", State.of(x), before);
+    }
+
+    private static void closed(String why, CapacityQueues x) {
+        String before = State.of(x);
+        check.due("schedule(), " + why, x.schedule(), 0);
+        check.due("state, " + why, State.of(x), before);
+    }
+
+    /** "If the root is not open, it answers 0 and nothing changes", for each reason why it may not be open. */
+    private static void rootIsNotOpen() {
+        closed("a fresh object", new CapacityQueues(4, 4));
+        closed("a root with children and no request", asking(4, 4, 0));
+        CapacityQueues held = asking(4, 4, 3);
+        held.schedule();
+        closed("all requests granted", held);
+        CapacityQueues cancelled = asking(4, 4, 3);
+        cancelled.cancel(1, 0);
+        closed("all requests cancelled", cancelled);
+        CapacityQueues limited = asking(4, 1, 3);
+        limited.schedule();
+        closed("the user at the limit", limited);
+        CapacityQueues full = asking(4, 4, 9);
+        full.schedule();
+        closed("no free unit", full);
+        CapacityQueues shut = asking(4, 4, 3);
+        check.due("setCapacity(1, 0, 0)", shut.setCapacity(1, 0, 0), true);
+        closed("a maximum of 0", shut);
+    }
+
+    private static CapacityQueues asking(int units, int limit, int count) {
+        CapacityQueues x = new CapacityQueues(units, limit);
+        x.addQueue(0, 1, units);
+        if (count > 0) {
+            x.submit(1, 0, count);
+        }
+        return x;
+    }
+
+    /** "the number of containers it created, which is in 0..C" */
+    private static void answersUpToAllUnits() {
+        for (int units = 1; units <= 64; units++) {
+            for (int count : new int[] {units - 1, units, units + 1}) {
+                CapacityQueues x = new CapacityQueues(units, 64);
+                for (int i = 0; i < count; i++) {
+                    x.submit(0, i % 4, 1);
+                }
+                int want = Math.min(count, units);
+                check.due("schedule() for " + count + " of " + units, x.schedule(), want);
+                check.due("used(0)", x.used(0), want);
+                check.due("the last container is live", x.complete(want), want > 0);
+                check.due("no container more", x.complete(want + 1), false);
+            }
+        }
+    }
+
+    /** "steps continue until the root is no longer open", over sixteen queues that close one after another. */
+    private static void stepsGoOnUntilTheRootIsClosed() {
+        CapacityQueues x = new CapacityQueues(64, 2);
+        int want = 0;
+        for (int q = 1; q < CapacityQueues.MAX_QUEUES; q++) {
+            x.addQueue(0, 4, 4);
+            x.submit(q, 0, q);
+            x.submit(q, 1, 1);
+            want += Math.min(q, 2) + 1;
+        }
+        check.due("schedule()", x.schedule(), want);
+        check.due("used(1), by its requests", x.used(1), 2);
+        check.due("used(15), by the user limit", x.used(15), 3);
+        closed("every leaf is closed", x);
     }
 
     private static void leastServedUserFirst() {

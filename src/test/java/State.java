@@ -8,13 +8,14 @@ final class State {
     static String of(CapacityQueues x) {
         StringBuilder text = new StringBuilder();
         text.append("queues ").append(x.queueCount()).append(" limit ").append(x.userLimit()).append('\n');
-        for (int q = -1; q <= x.queueCount(); q++) {
+        text.append(queues(x, -1, x.queueCount()));
+        return text.append(containers(x)).toString();
+    }
+
+    static String queues(CapacityQueues x, int first, int last) {
+        StringBuilder text = new StringBuilder();
+        for (int q = first; q <= last; q++) {
             text.append(queue(x, q)).append('\n');
-        }
-        for (int id = -1; id <= LAST_ID; id++) {
-            if (x.containerInfo(id) != CapacityQueues.NONE) {
-                text.append(id).append(':').append(x.containerInfo(id)).append(' ');
-            }
         }
         return text.toString();
     }
@@ -26,6 +27,17 @@ final class State {
         for (int user = -1; user <= CapacityQueues.USERS; user++) {
             text.append(" u").append(user).append(' ').append(x.pending(q, user));
             text.append('/').append(x.userUsed(q, user));
+        }
+        return text.toString();
+    }
+
+    static String containers(CapacityQueues x) {
+        StringBuilder text = new StringBuilder();
+        for (int id = -1; id <= LAST_ID; id++) {
+            int info = x.containerInfo(id);
+            if (info != CapacityQueues.NONE) {
+                text.append(id).append(':').append(info).append(' ');
+            }
         }
         return text.toString();
     }
