@@ -125,7 +125,8 @@ final class Model {
     int demand(Queue leaf) {
         int sum = 0;
         for (int k = 0; k < 4; k++) {
-            sum += Math.max(0, Math.min(leaf.pending[k], limit - userUsed(leaf, k)));
+            int room = limit - userUsed(leaf, k);
+            sum += room > 0 ? Math.min(leaf.pending[k], room) : 0;
         }
         return sum;
     }

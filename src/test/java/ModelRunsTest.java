@@ -30,7 +30,7 @@ public final class ModelRunsTest {
             String where = "run " + run + ", call " + n + ": ";
             boolean preempted = call(where, x, m);
             sameState(where, x, m);
-            properties(where, x, m.lastId(), preempted);
+            Properties.hold(check, where, x, m.lastId(), preempted);
         }
     }
 
@@ -41,7 +41,10 @@ public final class ModelRunsTest {
             int parent = pick(Math.min(reach, m.queues.size()));
             int g = pick(1 + m.queues.get(parent).g / 2);
             int max = g + pick(m.units);
-            check.due("run " + run + ", growing: addQueue", x.addQueue(parent, g, max), m.addQueue(parent, g, max));
+            String where = "run " + run + ", growing: ";
+            check.due(where + "addQueue", x.addQueue(parent, g, max), m.addQueue(parent, g, max));
+            sameState(where, x, m);
+            Properties.hold(check, where, x, m.lastId(), false);
         }
     }
 
@@ -90,48 +93,6 @@ public final class ModelRunsTest {
         for (int id = -1; id <= m.lastId() + 1; id++) {
             Model.Container c = m.live.get(id);
             check.due(where + "containerInfo " + id, x.containerInfo(id), c == null ? -1 : c.leaf().id * 4 + c.user());
-        }
-    }
-
-    private static void properties(String where, CapacityQueues x, int lastId, boolean preempted) {
-        int count = x.queueCount();
-        int[] children = new int[count];
-        int[] childUse = new int[count];
-        int[] childGuarantee = new int[count];
-        for (int q = 1; q < count; q++) {
-            children[x.parentOf(q)]++;
-            childUse[x.parentOf(q)] += x.used(q);
-            childGuarantee[x.parentOf(q)] += x.guarantee(q);
-        }
-        int[] live = new int[count];
-        for (int id = 1; id <= lastId; id++) {
-            if (x.containerInfo(id) != CapacityQueues.NONE) {
-                live[x.containerInfo(id) / 4]++;
-            }
-        }
-        for (int q = 0; q < count; q++) {
-            String at = where + "queue " + q + " ";
-            if (children[q] == 0) {
-                leafProperties(at, x, q, live[q], preempted);
-            } else {
-                check.due(at + "property 2", x.used(q), childUse[q]);
-            }
-            check.due(at + "property 3", x.used(q) >= 0 && x.used(q) <= x.maxCapacity(q), true);
-            check.due(at + "property 4", childGuarantee[q] <= x.guarantee(q), true);
-        }
-    }
-
-    private static void leafProperties(String at, CapacityQueues x, int leaf, int live, boolean preempted) {
-        int held = 0;
-        int demand = 0;
-        for (int user = 0; user < 4; user++) {
-            held += x.userUsed(leaf, user);
-            demand += Math.max(0, Math.min(x.pending(leaf, user), x.userLimit() - x.userUsed(leaf, user)));
-        }
-        check.due(at + "property 1, users", x.used(leaf), held);
-        check.due(at + "property 1, containers", x.used(leaf), live);
-        if (preempted) {
-            check.due(at + "property 5", x.used(leaf) >= x.guarantee(leaf) || demand == 0, true);
         }
     }
 }
